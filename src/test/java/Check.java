@@ -1,14 +1,26 @@
+import java.util.List;
+
 /** Counts the answers that are not as due, and ends a test. */
 final class Check {
+    // The kinds in the order of their numbers.
+    private static final List<String> KINDS = List.of(
+        "SET", "COPY", "ADD", "SUB", "MUL", "XOR", "LESS", "PRINT", "IFPOS", "ELSE", "LOOP", "END");
+
     private static int wrong = 0;
+    private static String sentence = "";
 
     private Check() {
+    }
+
+    /** From here on, a wrong answer is told as a breach of these words of the document. */
+    static void sentence(String words) {
+        sentence = "\"" + words + "\": ";
     }
 
     static void due(String what, long got, long want) {
         if (got != want) {
             wrong++;
-            System.out.println(what + " answered " + got + ", due is " + want);
+            System.out.println(sentence + what + " answered " + got + ", due is " + want);
         }
     }
 
@@ -36,6 +48,25 @@ final class Check {
             int answer = x.add(numbers[i], numbers[i + 1], numbers[i + 2], numbers[i + 3]);
             due("add of statement " + i / 4, answer, i / 4 + 1);
         }
+        return x;
+    }
+
+    /** Adds statements written as in the document, with ';' between them; numbers left out are 0. */
+    static void write(StackScheduler x, String text) {
+        for (String statement : text.split(";")) {
+            String[] words = (statement.trim() + " 0 0 0").split(" +");
+            int kind = KINDS.indexOf(words[0]);
+            int[] n = new int[3];
+            for (int i = 0; i < 3; i++) {
+                n[i] = Integer.parseInt(words[i + 1]);
+            }
+            due("add of '" + statement.trim() + "' is taken", x.add(kind, n[0], n[1], n[2]) > 0, true);
+        }
+    }
+
+    static StackScheduler program(String text) {
+        StackScheduler x = new StackScheduler();
+        write(x, text);
         return x;
     }
 
