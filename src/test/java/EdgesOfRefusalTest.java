@@ -106,7 +106,7 @@ final class EdgesOfRefusalTest {
     }
 
     private static void fullAdds() {
-        String full = nearlyFull() + "; PRINT 4; PRINT 5";
+        String full = nearlyFull() + "; PRINT 4; SUB 2 2 4";
         for (int kind = -1; kind <= 12; kind++) {
             int k = kind;
             refused("add(" + k + ", 0, 0, 0) when full", full, StackScheduler.FULL, x -> x.add(k, 0, 0, 0));

@@ -286,9 +286,10 @@ final class EdgesOfTermsTest {
 
     private static void loopOfNothing() {
         Check.sentence("the statements up to its END are passed a times");
-        StackScheduler x = counted("LOOP 5; END; LOOP 0; END; LOOP 3; LOOP 4; LOOP 5; END; END; END; PRINT 5");
-        Check.due("run() of loops with nothing in them", x.run(), 1);
-        Check.outputs("loops with nothing in them", x, 15);
+        String text = "LOOP 5; END; PRINT 1; LOOP 0; END; PRINT 2; LOOP 3; LOOP 4; LOOP 5; END; END; END; PRINT 5";
+        StackScheduler x = counted(text);
+        Check.due("run() of loops with nothing in them", x.run(), 3);
+        Check.outputs("loops with nothing in them", x, 11, 12, 15);
     }
 
     private static void endOfTheLatestOpen() {
