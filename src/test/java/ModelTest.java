@@ -79,7 +79,10 @@ final class ModelTest {
                 retract();
             }
         }
-        run();
+        // After the 512th call any answer would do.
+        if (left > 0) {
+            run();
+        }
         look();
     }
 
