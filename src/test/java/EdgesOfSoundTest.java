@@ -87,6 +87,8 @@ final class EdgesOfSoundTest {
                     String three = first + second + third;
                     judge(true, three + "nnn", three + "ninnn", three + "nlnnn", three + "nnllnnn");
                     judge(false, three + "innnn", three + "lnnnn", three + "nlinnnn", three + "nnlllnnnn");
+                    // The fourth has no END of its own: it is neither passed over nor closed with the third.
+                    judge(false, three + "i", three + "l", three + "innn", three + "lnnn", three + "iennn");
                 }
             }
         }
